@@ -21,8 +21,8 @@ public final class CanalEnd {
     private final Hour hour = new Hour();
     private final Day day = new Day();
     private final Day dugDay = new Day();
-    private final Worlds worlds = new Worlds(canal);
-    private final Heights heights = new Heights(trial);
+    private final Worlds worlds = new Worlds();
+    private final Heights heights = new Heights();
     private final Sheet[] sheets = new Sheet[SHEETS];
     private final int[] odds = new int[MOST_OUTLETS];
     private int latestFault = 0;
@@ -220,7 +220,7 @@ public final class CanalEnd {
         if (!isCanal()) {
             return STATE;
         }
-        worlds.countOnce();
+        worlds.countOnce(canal);
         return worlds.fitting;
     }
 
@@ -228,7 +228,7 @@ public final class CanalEnd {
         if (!isOutlet(o)) {
             return UNKNOWN;
         }
-        worlds.countOnce();
+        worlds.countOnce(canal);
         for (int kind = 0; kind < KINDS; kind++) {
             if (worlds.fitting > 0 && worlds.tally[o][kind] == worlds.fitting) {
                 return kind;
@@ -241,7 +241,7 @@ public final class CanalEnd {
         if (!isOutlet(o) || !isIn(which, 0, 1)) {
             return LOST;
         }
-        worlds.countOnce();
+        worlds.countOnce(canal);
         int all = worlds.fitting;
         if (all == 0) {
             return LOST;
@@ -261,7 +261,7 @@ public final class CanalEnd {
         if (!isCanal()) {
             return STATE;
         }
-        worlds.countWithGauges(f, night);
+        worlds.countWithGauges(canal, f, night);
         if (worlds.fitting == 0) {
             return STATE;
         }
@@ -376,7 +376,7 @@ public final class CanalEnd {
             return NONE;
         }
         trial.become(canal);
-        heights.search(f);
+        heights.search(trial, f);
         return k < 0 ? heights.leastSpread : heights.best[k];
     }
 
@@ -1007,7 +1007,6 @@ public final class CanalEnd {
         final int[][] tally = new int[MOST_OUTLETS][KINDS];
         /** Of a MILE: how many would FIT at the worst, if its gauge were read. */
         final int[] worst = new int[MOST_MILES];
-        private final Canal canal;
         // rows by HOUR: the READINGS' ones, then the one whose gauges might be read
         private int hours = 0;
         private final int[] weir = new int[HOURS];
@@ -1021,10 +1020,6 @@ public final class CanalEnd {
         private final int[] gauges = new int[MOST_MILES];
         /** By MILE and what is read: how many would FIT then. Large, so made when first needed. */
         private int[][] leaves = null;
-
-        Worlds(Canal own) {
-            canal = own;
-        }
 
         void forgetReadings() {
             readings = 0;
@@ -1051,27 +1046,27 @@ public final class CanalEnd {
             }
         }
 
-        void countOnce() {
+        void countOnce(Canal c) {
             if (!counted) {
                 hours = readings;
-                count();
+                count(c);
             }
         }
 
-        void countWithGauges(int f, boolean night) {
+        void countWithGauges(Canal c, int f, boolean night) {
             weir[readings] = f;
             nights[readings] = night;
-            lastMile[readings] = canal.miles - 1;
+            lastMile[readings] = c.miles - 1;
             hours = readings + 1;
-            clearLeaves(f);
-            count();
+            clearLeaves(c.miles, f);
+            count(c);
         }
 
-        private void clearLeaves(int f) {
+        private void clearLeaves(int miles, int f) {
             if (leaves == null) {
                 leaves = new int[MOST_MILES][MOST_WATER + 1];
             }
-            for (int j = 0; j < canal.miles; j++) {
+            for (int j = 0; j < miles; j++) {
                 worst[j] = 0;
                 for (int v = 0; v <= f; v++) {
                     leaves[j][v] = 0;
@@ -1079,13 +1074,13 @@ public final class CanalEnd {
             }
         }
 
-        private void count() {
+        private void count(Canal c) {
             for (int o = 0; o < MOST_OUTLETS; o++) {
                 for (int kind = 0; kind < KINDS; kind++) {
                     tally[o][kind] = 0;
                 }
             }
-            fitting = fittingFrom(this, 0, weir, 1);
+            fitting = fittingFrom(this, c, 0, weir, 1);
             counted = true;
         }
 
@@ -1093,30 +1088,34 @@ public final class CanalEnd {
          * How many kinds of OUTLETS from o on FIT, if so much comes to it; weight is how many
          * kinds of those ahead bring the same.
          */
-        private static int fittingFrom(Worlds w, int o, int[] comes, int weight) {
+        private static int fittingFrom(Worlds w, Canal c, int o, int[] comes, int weight) {
             if (o > MOST_OUTLETS) {
                 return 0;
             }
-            int from = o == 0 ? -1 : w.canal.mileOf[o - 1];
-            int to = o < w.canal.outlets ? w.canal.mileOf[o] : w.canal.miles;
-            if (!w.flowsOn(o, comes, from, to)) {
+            int from = o == 0 ? -1 : c.mileOf[o - 1];
+            int to = o < c.outlets ? c.mileOf[o] : c.miles;
+            if (!w.flowsOn(c, o, comes, from, to)) {
                 return 0;
             }
-            int found = o < w.canal.outlets ? fittingByKind(w, o, weight) : 1;
+            int found = o < c.outlets ? fittingByKind(w, c, o, weight) : 1;
             if (w.hours > w.readings) {
                 w.noteGauges(Math.max(from, 0), to, found * weight);
             }
             return found;
         }
 
-        private static int fittingByKind(Worlds w, int o, int weight) {
-            w.takeByKind(o);
+        private static int fittingByKind(Worlds w, Canal c, int o, int weight) {
+            w.takeByKind(c, o);
             int found = 0;
-            int alike = 1;
-            for (int kind = 0; kind < KINDS; kind += alike) {
-                alike = w.alikeFrom(o, kind);
-                int each = fittingFrom(w, o + 1, w.left[KINDS * o + kind], weight * alike);
-                for (int same = kind; same < kind + alike; same++) {
+            int done = 0;
+            for (int kind = 0; kind < KINDS; kind++) {
+                if (kind < done) {
+                    continue;
+                }
+                int alike = w.alikeFrom(o, kind);
+                int each = fittingFrom(w, c, o + 1, w.left[KINDS * o + kind], weight * alike);
+                done = kind + alike;
+                for (int same = kind; same < done; same++) {
                     w.tally[o][same] += each * weight;
                 }
                 found += each * alike;
@@ -1125,24 +1124,25 @@ public final class CanalEnd {
         }
 
         /** Down to the MILE of the next OUTLET (or behind the last MILE); false: a READING is not so. */
-        private boolean flowsOn(int o, int[] comes, int from, int to) {
+        private boolean flowsOn(Canal c, int o, int[] comes, int from, int to) {
             for (int h = 0; h < hours; h++) {
                 int still = comes[h];
                 if (from == to) {
                     levels[o][h] = o > 0 ? levels[o - 1][h] : 0;
                 } else if (lastMile[h] >= from) {
-                    still = flowOf(h, still, from, to);
+                    still = flowOf(c, h, still, from, to);
                     if (still < 0) {
                         return false;
                     }
-                    levels[o][h] = to < canal.miles ? canal.levelOf(to, still) : 0;
+                    levels[o][h] = to < c.miles ? c.levelOf(to, still) : 0;
                 }
                 water[o][h] = still;
             }
             return true;
         }
 
-        private int flowOf(int h, int comes, int from, int to) {
+        /** -1, if the HOUR's READING is not so. */
+        private int flowOf(Canal c, int h, int comes, int from, int to) {
             int still = comes;
             for (int j = from; j < to; j++) {
                 if (j >= 0 && h == readings) {
@@ -1150,22 +1150,21 @@ public final class CanalEnd {
                 } else if (j == lastMile[h]) {
                     return still == read[h] ? still : -1;
                 }
-                if (j + 1 < canal.miles) {
-                    still -= canal.seepOf(j + 1, still);
+                if (j + 1 < c.miles) {
+                    still -= c.seepOf(j + 1, still);
                 }
             }
             return still;
         }
 
-        private void takeByKind(int o) {
-            for (int kind = 0; kind < KINDS; kind++) {
-                int[] row = left[KINDS * o + kind];
-                for (int h = 0; h < hours; h++) {
-                    int still = water[o][h];
-                    // behind its READING nothing of an HOUR matters: kinds stay alike
-                    boolean matters = lastMile[h] >= canal.mileOf[o];
-                    row[h] = !matters ? still
-                            : still - canal.takenFrom(still, o, kind, levels[o][h], nights[h]);
+        private void takeByKind(Canal c, int o) {
+            for (int h = 0; h < hours; h++) {
+                int still = water[o][h];
+                // behind its READING nothing of an HOUR matters: kinds stay alike
+                boolean matters = lastMile[h] >= c.mileOf[o];
+                for (int kind = 0; kind < KINDS; kind++) {
+                    int taken = matters ? c.takenFrom(still, o, kind, levels[o][h], nights[h]) : 0;
+                    left[KINDS * o + kind][h] = still - taken;
                 }
             }
         }
@@ -1202,57 +1201,48 @@ public final class CanalEnd {
         }
     }
 
-    /** HEIGHTS by which OUTLETS take most alike, found on a CANAL whose own ones may be changed. */
+    /** HEIGHTS by which OUTLETS take most alike. */
     private static final class Heights {
         int leastSpread = 0;
         final int[] best = new int[MOST_EVENED];
-        private final Canal canal;
 
-        Heights(Canal tried) {
-            canal = tried;
-        }
-
-        void search(int f) {
+        /** Leaves the HEIGHTS of the CANAL changed: it is one to try with. */
+        void search(Canal tried, int f) {
             leastSpread = MOST_WATER + 1;
-            tryFrom(this, 0, f, 0, -1, -1);
+            tryFrom(this, tried, 0, f, 0, -1, -1);
         }
 
         /** most and least are of the OUTLETS ahead of o, -1 where there is none. */
-        private static void tryFrom(Heights s, int o, int comes, int level, int most, int least) {
-            if (o >= s.canal.outlets || o >= MOST_EVENED) {
-                s.keepTried(most - least);
+        private static void tryFrom(Heights s, Canal c, int o, int comes, int level, int most, int least) {
+            if (o >= c.outlets || o >= MOST_EVENED) {
+                s.keep(c, most - least);
                 return;
             }
-            int from = o == 0 ? -1 : s.canal.mileOf[o - 1];
-            int to = s.canal.mileOf[o];
-            int water = s.flowsTo(comes, from, to);
-            int stands = from == to ? level : s.canal.levelOf(to, water);
+            int from = o == 0 ? -1 : c.mileOf[o - 1];
+            int to = c.mileOf[o];
+            int water = comes;
+            for (int j = from + 1; j <= to; j++) {
+                water -= c.seepOf(j, water);
+            }
+            int stands = from == to ? level : c.levelOf(to, water);
             int before = -1;
             for (int height = 0; height <= MOST_DIGIT; height++) {
-                s.canal.heights[o] = height;
-                int taken = s.canal.takenFrom(water, o, RIGHT, stands, false);
+                c.heights[o] = height;
+                int taken = c.takenFrom(water, o, RIGHT, stands, false);
                 int above = Math.max(most, taken);
                 int below = o == 0 ? taken : Math.min(least, taken);
                 // the same taken again, or a spread that is no less, brings no better row
                 if (taken != before && above - below < s.leastSpread) {
-                    tryFrom(s, o + 1, water - taken, stands, above, below);
+                    tryFrom(s, c, o + 1, water - taken, stands, above, below);
                 }
                 before = taken;
             }
         }
 
-        private int flowsTo(int comes, int from, int to) {
-            int water = comes;
-            for (int j = from + 1; j <= to; j++) {
-                water -= canal.seepOf(j, water);
-            }
-            return water;
-        }
-
-        private void keepTried(int spread) {
+        private void keep(Canal c, int spread) {
             if (spread < leastSpread) {
                 leastSpread = spread;
-                System.arraycopy(canal.heights, 0, best, 0, MOST_EVENED);
+                System.arraycopy(c.heights, 0, best, 0, MOST_EVENED);
             }
         }
     }

@@ -586,6 +586,11 @@ public final class CanalEndPromises {
         due("28 what is left", two.tempts(1, 9), 5);
         due("29 just enough", two.kept(1, 5, 9), 3);
         due("29 of several by number", two.kept(1, 4, 9), 1);
+        CanalEnd thirds = with("w99;m00o10o53");
+        due("28 a third", thirds.tempts(0, 99), 5);
+        due("28 two thirds", thirds.tempts(1, 99), 20);
+        due("29 a millionth more, if anything is left over", thirds.kept(1, 10, 99), 1);
+        due("29 enough for both", thirds.kept(1, 11, 99), 3);
     }
 
     private static void sheets() {
