@@ -224,7 +224,10 @@ final class Edge {
         return laid(new CanalEnd());
     }
 
-    /** Three MILES, three OUTLETS, two READINGS that FIT, and nothing as it is at first. */
+    /**
+     * Three MILES, three OUTLETS, two READINGS that FIT, and nothing as it is at first. What may be
+     * kept from earlier questions is there, so that it is seen if it is not given up in time.
+     */
     static CanalEnd busy() {
         CanalEnd x = laid(with(THREE));
         x.kind(1, 2);
@@ -234,6 +237,9 @@ final class Edge {
         x.reading(0, 40, false, 30);
         x.reading(2, 40, true, 14);
         x.tell(1);
+        x.best(40);
+        x.tells(40, true, 0);
+        x.fits();
         return x;
     }
 
@@ -243,6 +249,7 @@ final class Edge {
         for (int k = 2; k < 10; k++) {
             x.reading(1, 40, false, 30);
         }
+        x.fits();
         return x;
     }
 
@@ -250,6 +257,7 @@ final class Edge {
     static CanalEnd unfit() {
         CanalEnd x = busy();
         x.reading(0, 40, false, 29);
+        x.fits();
         return x;
     }
 }

@@ -290,9 +290,10 @@ public final class CanalEndEdgesOfCanal {
     private static void takenTextMakesAllAnew() {
         Edge e = Edge.ofFaults("promise 2, a TEXT that is taken", () -> {
             CanalEnd x = Edge.busy();
-            x.fits();
             x.turn(0, 0, 9);
             x.turn(2, 1, 9);
+            x.best(40);
+            x.fits();
             return x;
         });
         Edge.Call take = x -> x.canal(3, Edge.SHORTS, 0, 24);
@@ -363,11 +364,7 @@ public final class CanalEndEdgesOfCanal {
         e.then("SILT to the most", x -> x.turn(2, 1, 9), 3, x -> x.ofMile(2, 1), 9);
         e.then("SILT leaves SEEP", x -> x.turn(0, 1, 9), 2, x -> x.ofMile(0, 0), 5);
         e.asks("to what it is", x -> x.turn(0, 0, 5), 5);
-        Edge counted = Edge.of("promise 4, 17: WORLDS by SEEP and SILT as they are now", () -> {
-            CanalEnd x = Edge.busy();
-            x.fits();
-            return x;
-        });
+        Edge counted = Edge.of("promise 4, 17: WORLDS by SEEP and SILT as they are now", Edge::busy);
         counted.then("SEEP", x -> x.turn(0, 0, 9), 5, CanalEnd::fits, 0);
         counted.then("SILT", x -> x.turn(0, 1, 9), 2, CanalEnd::fits, 0);
     }
@@ -438,11 +435,7 @@ public final class CanalEndEdgesOfCanal {
         Edge none = Edge.of("promise 9, syphon", CanalEnd::new);
         none.bounds("v without a CANAL", (x, v) -> x.syphon(v), 0, 99, Edge.OUTSIDE);
         none.then("at first", x -> x.syphon(99), 5, x -> x.syphon(0), 99);
-        Edge counted = Edge.of("promise 9, 17: WORLDS by SYPHON as it is now", () -> {
-            CanalEnd x = Edge.busy();
-            x.fits();
-            return x;
-        });
+        Edge counted = Edge.of("promise 9, 17: WORLDS by SYPHON as it is now", Edge::busy);
         counted.then("another SYPHON", x -> x.syphon(9), 8, CanalEnd::fits, 0);
     }
 }

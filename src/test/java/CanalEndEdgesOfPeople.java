@@ -330,6 +330,14 @@ public final class CanalEndEdgesOfPeople {
         Edge four = Edge.of("promise 27, even", () -> Edge.with("w1;m00o90o10;m00o10o10"));
         four.asks("no HEIGHT helps: one takes all", x -> x.even(9999, -1), 9999);
         four.asks("no HEIGHT helps, the fourth one", x -> x.even(9999, 3), 0);
+        Edge again = Edge.of("promise 27, even", () -> {
+            CanalEnd x = Edge.with("w80;m00o90o10");
+            Edge.due("promise 27: both take nothing, OUTLET 0", x.even(8, 0), 1);
+            Edge.due("promise 27: both take nothing, OUTLET 1", x.even(8, 1), 1);
+            return x;
+        });
+        again.asks("the most less the least, the most there is", x -> x.even(9999, -1), 9999);
+        again.asks("the first row, whatever was found ahead of it", x -> x.even(9999, 0), 0);
     }
 
     // ---- promises 28, 29
@@ -349,6 +357,13 @@ public final class CanalEndEdgesOfPeople {
         Edge right = Edge.of("promise 28, tempts", one(0, 0, false));
         right.asks("no water", x -> x.tempts(0, 0), 0);
         right.asks("no more than there is", x -> x.tempts(0, 2), 2);
+        Edge others = Edge.of("promise 28, tempts", () -> {
+            // by night the first one leaves 25 of 30, by day all of it
+            CanalEnd x = Edge.with("w99;m00o19;m02o13");
+            x.kind(0, 2);
+            return x;
+        });
+        others.asks("by night, others as they are", x -> x.tempts(1, 30), 8);
         Edge all = Edge.of("promise 28, tempts", () -> Edge.with("w1;m00o90o10"));
         all.asks("it takes all as it is", x -> x.tempts(0, 9999), 0);
         all.asks("nothing is left for it", x -> x.tempts(1, 9999), 0);
@@ -381,6 +396,13 @@ public final class CanalEndEdgesOfPeople {
         e.asks("a third and one more each: two are KEPT", x -> x.kept(1, 10, 30), 3);
         e.asks("nothing is left over: three are KEPT", x -> x.kept(1, 11, 30), 7);
         e.asks("a quarter each, nothing is left over: four", x -> x.kept(1, 15, 30), 15);
+        Edge small = Edge.of("promise 29, kept", () -> {
+            CanalEnd x = Edge.with(TEMPTED);
+            x.syphon(1);
+            return x;
+        });
+        small.asks("1 by 3: only one is left over, still one more: two", x -> x.kept(1, 2, 30), 3);
+        small.asks("1 by 4: nothing is left over: four", x -> x.kept(1, 3, 30), 15);
         Edge eight = Edge.of("promise 29, kept", () -> Edge.with("w99;m00o19o19o19o19o19o19o19o19"));
         eight.asks("g 3, FINE 5: three millions, just enough for six", x -> x.kept(3, 5, 60), 63);
         eight.asks("g 1, FINE 35: an eighth each, all eight", x -> x.kept(1, 35, 60), 255);
