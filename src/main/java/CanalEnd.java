@@ -99,7 +99,7 @@ public final class CanalEnd {
             case 4:
                 return canal.wants[o];
             case 5:
-                return canal.guarded[o] ? 1 : 0;
+                return canal.guarded[o];
             default:
                 return OUTSIDE;
         }
@@ -133,10 +133,11 @@ public final class CanalEnd {
         if (!isOutlet(o)) {
             return UNKNOWN;
         }
-        if (canal.guarded[o] == is) {
+        int guarded = is ? 1 : 0;
+        if (canal.guarded[o] == guarded) {
             return 0;
         }
-        canal.guarded[o] = is;
+        canal.guarded[o] = guarded;
         return 1;
     }
 
@@ -631,7 +632,7 @@ public final class CanalEnd {
         for (int round = 0; changed && round <= KINDS * MOST_OUTLETS; round++) {
             changed = false;
             for (int o = 0; o < c.outlets; o++) {
-                if (day.taken[o] < c.wants[o] && !c.guarded[o] && c.kinds[o] != NIGHTLY) {
+                if (day.taken[o] < c.wants[o] && c.guarded[o] == 0 && c.kinds[o] != NIGHTLY) {
                     c.kinds[o]++;
                     changes++;
                     changed = true;
@@ -646,7 +647,7 @@ public final class CanalEnd {
         trial.become(canal);
         if (sort == MEND) {
             trial.kinds[k] = RIGHT;
-            trial.guarded[k] = true;
+            trial.guarded[k] = 1;
         } else if (sort == DIG) {
             trial.silt[k] = 0;
         } else {
@@ -760,7 +761,8 @@ public final class CanalEnd {
         final int[] heights = new int[MOST_OUTLETS];
         final int[] kinds = new int[MOST_OUTLETS];
         final int[] wants = new int[MOST_OUTLETS];
-        final boolean[] guarded = new boolean[MOST_OUTLETS];
+        /** 1 and 0, so that it is a row of numbers as the others are: those alone are copied. */
+        final int[] guarded = new int[MOST_OUTLETS];
 
         void begin(int newWidth) {
             width = newWidth;
@@ -786,7 +788,7 @@ public final class CanalEnd {
                 heights[outlets] = height;
                 kinds[outlets] = RIGHT;
                 wants[outlets] = 0;
-                guarded[outlets] = false;
+                guarded[outlets] = 0;
                 outlets++;
             }
         }
@@ -836,7 +838,7 @@ public final class CanalEnd {
         int underGuard() {
             int many = 0;
             for (int o = 0; o < outlets; o++) {
-                many += guarded[o] ? 1 : 0;
+                many += guarded[o];
             }
             return many;
         }
